@@ -609,20 +609,18 @@ public final class Tenonyard {
         private void findAmounts(Frame frame) {
             wideDivisor.set(divisor);
             for (int member = 0; member < frame.members; member++) {
-                boolean isPush = wholes[member] < 0;
-                boolean hasRest = rests[member] != 0;
                 long whole = wholes[member];
                 long rest = rests[member];
-                if (isPush) {
-                    whole = hasRest ? -whole - 1 : -whole;
-                    rest = hasRest ? divisor - rest : 0;
+                int lengthSquare = frame.lengthSquare(member);
+                if (whole < 0) {
+                    amounts[member] = -timesLength(-1 - whole, divisor - rest, lengthSquare);
+                } else {
+                    amounts[member] = timesLength(whole, rest, lengthSquare);
                 }
-                long amount = timesLength(whole, rest, frame.lengthSquare(member));
-                amounts[member] = isPush ? -amount : amount;
             }
         }
 
-        /** The greatest whole number whose square is at most that of the pull times that of the length. */
+        /** The greatest whole number whose square is at most that of a pull, not below 0, times that of the length. */
         private long timesLength(long whole, long rest, int lengthSquare) {
             factor.set(whole);
             product.setProduct(factor, wideDivisor);
@@ -872,7 +870,7 @@ public final class Tenonyard {
                 return;
             }
             int sets = 1 << frame.members;
-            measure(sets, frame, joinery);
+            measure(frame, joinery);
             for (int set = 0; set < sets; set++) {
                 costs[set] = set == 0 ? 0 : NO_WAY;
             }
@@ -883,12 +881,12 @@ public final class Tenonyard {
             isFound = true;
         }
 
-        private void measure(int sets, Frame frame, Joinery joinery) {
+        private void measure(Frame frame, Joinery joinery) {
             int weight = CHOICES / STICKS;
             for (int member = 0; member < frame.members; member++) {
                 int span = pieceLength(member, frame, joinery) + 1;
                 int bit = 1 << member;
-                for (int set = bit; set < 2 * bit && set < sets; set++) {
+                for (int set = bit; set < 2 * bit; set++) {
                     spans[set] = spans[set - bit] + span;
                     weights[set] = weights[set - bit] + weight;
                 }

@@ -12,6 +12,11 @@ public final class FrameTests {
         isBalanced();
         weakest();
         sums();
+        nineMembers(1);
+        nineMembers(2);
+        smallestDivisor();
+        greatDivisor();
+        longestMember();
         greatNumbers();
         Check.end("FrameTests");
     }
@@ -215,8 +220,20 @@ public final class FrameTests {
         yard.load(2, 31, -61);
         yard.load(0, -7, 5);
         yard.load(1, 3, 3);
+        Tenonyard turned = corner(1, 1);
+        turned.load(0, 5, 7);
+        Tenonyard back = new Tenonyard();
+        back.node(8, 0, 'p');
+        back.node(0, 0, 'r');
+        back.node(4, 3, '-');
+        back.member(0, 2, 20, 1);
+        back.member(1, 2, 20, 1);
+        back.member(0, 1, 24, 0);
+        back.load(2, 100, -50);
         for (int x = 0; x <= 30; x++) {
             Check.yes("section at " + x, yard.isBalanced(x));
+            Check.yes("section of a corner at " + x, turned.isBalanced(x));
+            Check.yes("section of a roof turned round at " + x, back.isBalanced(x));
         }
         yard.node(9, 9, '-');
         for (int far : new int[] {-1, 31, Integer.MAX_VALUE, Integer.MIN_VALUE}) {
@@ -265,34 +282,161 @@ public final class FrameTests {
         Check.refused("sum of forces if loose", Yards.STATE, () -> loose.allForce());
     }
 
-    /** Long members that are almost in line, with loads as great as calls allow: beyond 64 bits on the way. */
-    private static void greatNumbers() {
-        int[][] nodes = {{0, 0}, {30, 29}, {29, 28}, {1, 29}, {29, 1}, {30, 0}, {2, 30}, {0, 29}};
-        int[][] members = {{0, 1}, {0, 2}, {3, 0}, {3, 4}, {5, 3}, {5, 6}, {7, 5}, {7, 4}};
-        String kinds = "-pp-p-p-";
+    /** A beam of four triangles, with a load at the middle of its foot: forces stay when all is longer. */
+    private static void nineMembers(int scale) {
         Tenonyard yard = new Tenonyard();
-        Model model = new Model();
+        int[][] nodes = {{0, 0}, {6, 0}, {12, 0}, {3, 4}, {9, 4}, {15, 4}};
+        int[][] members = {{0, 1}, {1, 2}, {3, 4}, {4, 5}, {0, 3}, {3, 1}, {1, 4}, {4, 2}, {2, 5}};
+        for (int[] node : nodes) {
+            char ofFoot = node[0] == 0 ? 'p' : node[0] == 12 ? 'r' : '-';
+            yard.node(scale * node[0], scale * node[1], node[1] > 0 ? '-' : ofFoot);
+        }
+        for (int[] member : members) {
+            yard.member(member[0], member[1], 12, 0);
+        }
+        yard.load(1, 0, -80);
+        long[] due = {30, 30, -60, 0, -50, 50, 50, -50, 0};
+        for (int member = 0; member < due.length; member++) {
+            Check.same("force " + member + " of nine", yard.force(member), due[member]);
+        }
+        Check.same("pull", yard.pull(2), -10000 / scale);
+        Check.same("pull", yard.pull(4), -10000 / scale);
+        Check.same("bearing", yard.bearing(0, true), 40000);
+        Check.same("bearing", yard.bearing(2, true), 40000);
+        Check.same("weakest of nine", yard.weakest(), 2);
+        Check.same("sum of nine", yard.allForce(), 320);
+        yard.load(1, 0, -80);
+        yard.load(1, 0, 79);
+        Check.same("a little more", yard.force(4), -50);
+        Check.same("a little more", yard.force(1), 30);
+        Check.same("a little more", yard.force(2), -60);
+        yard.load(1, 0, 3);
+        Check.same("a little less", yard.force(4), -48);
+        Check.same("a little less", yard.force(1), 29);
+        Check.same("a little less", yard.force(2), -58);
+        yard.load(1, 0, -2);
+        yard.load(5, 0, -10);
+        Check.same("the last one", yard.force(8), -12);
+        Check.same("the last but five", yard.force(3), 7);
+        Check.yes("nine are sound", yard.isSound());
+    }
+
+    private static void smallestDivisor() {
+        for (int right = 0; right < 3; right += 2) {
+            Tenonyard yard = new Tenonyard();
+            yard.node(1, 0, 'p');
+            yard.node(right, 0, 'r');
+            yard.member(0, 1, 6, 0);
+            yard.load(1, 7, 0);
+            Check.same("pull", yard.pull(0), right == 0 ? -7000 : 7000);
+            Check.same("force", yard.force(0), right == 0 ? -7 : 7);
+            Check.same("bearing", yard.bearing(0, false), -7000);
+        }
+    }
+
+    /** Eight members 29 long, upright and level, so that forces are just the loads over a divisor of 29 to the 8th. */
+    private static void greatDivisor() {
+        Tenonyard yard = new Tenonyard();
+        int[][] nodes = {{0, 0}, {29, 29}, {1, 1}, {30, 30}, {29, 0}, {0, 29}, {30, 1}, {1, 30}};
+        int[][] members = {{0, 4}, {0, 5}, {1, 5}, {1, 4}, {2, 6}, {2, 7}, {3, 7}, {3, 6}};
         for (int node = 0; node < 8; node++) {
-            yard.node(nodes[node][0], nodes[node][1], kinds.charAt(node));
-            model.node(nodes[node][0], nodes[node][1], kinds.charAt(node));
+            yard.node(nodes[node][0], nodes[node][1], node < 4 ? '-' : 'p');
         }
         for (int[] member : members) {
             yard.member(member[0], member[1], 6, 0);
-            model.member(member[0], member[1], 6, 0);
         }
-        for (int load = 0; load < 400; load++) {
-            yard.load(7, 999, -998);
-            model.load(7, 999, -998);
+        for (int load = 1; load < 60; load++) {
+            for (int node = 0; node < 4; node++) {
+                yard.load(node, node % 2 == 0 ? 1 : -1, node % 2 == 0 ? -1 : 1);
+            }
+            for (int member = 0; member < 8 && load % 4 == 0; member++) {
+                Check.same("force level or upright", yard.force(member), member % 2 == 0 ? -load : load);
+            }
         }
-        Check.same("state of great numbers", yard.state(), model.state());
-        for (int member = 0; member < members.length; member++) {
+        Check.same("pull", yard.pull(7), 2034);
+        Check.same("push", yard.pull(6), -2035);
+    }
+
+    private static void longestMember() {
+        Tenonyard yard = corner(30, 30);
+        for (int load = 0; load < 30; load++) {
+            yard.load(0, 0, 999);
+        }
+        Check.same("pull", yard.pull(1), 999000);
+        Check.same("999 times the root of 1800", yard.force(1), 42383);
+        Check.same("force to the right", yard.force(0), -29970);
+    }
+
+    /**
+     * Frames that were sought for great forces: four free nodes and four pinned ones, and the two nodes of
+     * each member, with loads as great as calls allow. On the way numbers go far beyond 64 bits.
+     */
+    private static void greatNumbers() {
+        int[][] places = {
+            {29, 28, 1, 12, 6, 16, 20, 2, 28, 25, 4, 15, 23, 0, 22, 1},
+            {9, 24, 3, 1, 28, 13, 1, 0, 2, 29, 3, 1, 2, 28, 10, 28},
+            {3, 29, 27, 9, 4, 2, 1, 30, 3, 30, 22, 13, 20, 1, 17, 6},
+            {12, 28, 30, 26, 2, 7, 28, 17, 5, 9, 13, 30, 2, 8, 25, 19},
+            {0, 0, 29, 3, 2, 28, 30, 30, 26, 7, 30, 2, 22, 10, 1, 0},
+        };
+        int[][] members = {
+            {0, 5, 0, 2, 1, 7, 1, 3, 2, 6, 2, 7, 3, 0, 3, 4},
+            {0, 2, 0, 6, 1, 7, 1, 0, 2, 3, 2, 5, 3, 4, 3, 6},
+            {0, 7, 0, 6, 1, 2, 1, 7, 2, 0, 2, 4, 3, 5, 3, 1},
+            {0, 7, 0, 3, 1, 2, 1, 4, 2, 5, 2, 0, 3, 6, 3, 4},
+            {0, 5, 0, 3, 1, 0, 1, 7, 2, 4, 2, 5, 3, 2, 3, 6},
+        };
+        int great = 0;
+        for (int frame = 0; frame < places.length; frame++) {
+            for (int loads = 1; loads <= 401; loads += 50) {
+                great += isGreat(places[frame], members[frame], loads) ? 1 : 0;
+            }
+        }
+        Check.yes(great + " times there were great forces", great >= 20);
+    }
+
+    private static boolean isGreat(int[] places, int[] members, int loads) {
+        Tenonyard yard = new Tenonyard();
+        Model model = new Model();
+        for (int node = 0; node < 8; node++) {
+            yard.node(places[2 * node], places[2 * node + 1], node < 4 ? '-' : 'p');
+            model.node(places[2 * node], places[2 * node + 1], node < 4 ? '-' : 'p');
+        }
+        for (int member = 0; member < 8; member++) {
+            yard.member(members[2 * member], members[2 * member + 1], 6, 0);
+            model.member(members[2 * member], members[2 * member + 1], 6, 0);
+        }
+        for (int load = 0; load < loads; load++) {
+            int node = loads % 4;
+            yard.load(node, 999 - load % 7, loads % 3 * 997 - 999 + load % 5);
+            model.load(node, 999 - load % 7, loads % 3 * 997 - 999 + load % 5);
+        }
+        Check.same("state of great numbers", yard.state(), '.');
+        long greatest = 0;
+        for (int member = 0; member < 8; member++) {
             Check.same("great force " + member, yard.force(member), model.force(member));
             Check.same("great pull " + member, yard.pull(member), model.pull(member));
+            greatest = Math.max(greatest, Math.abs(yard.force(member)));
         }
         for (int node = 0; node < 8; node++) {
-            Check.same("great bearing " + node, yard.bearing(node, false), model.bearing(node, false));
-            Check.same("great bearing " + node, yard.bearing(node, true), model.bearing(node, true));
+            compareBearings(yard, model, node);
         }
+        Check.same("weakest of great ones", yard.weakest(), model.weakest());
+        Check.same("sum of great ones", yard.allForce(), model.allForce());
         Check.yes("great numbers are sound", yard.isSound());
+        return greatest > 1L << 40;
+    }
+
+    /** What is beyond a long number has no answer that is due: the model refuses it. */
+    private static void compareBearings(Tenonyard yard, Model model, int node) {
+        for (boolean isUpward : new boolean[] {false, true}) {
+            long due;
+            try {
+                due = model.bearing(node, isUpward);
+            } catch (ArithmeticException thrown) {
+                continue;
+            }
+            Check.same("great bearing " + node, yard.bearing(node, isUpward), due);
+        }
     }
 }

@@ -9,6 +9,7 @@ public final class JointTests {
         clashes();
         moistures();
         gap();
+        eachGap();
         widest();
         rightShare();
         Check.end("JointTests");
@@ -172,6 +173,24 @@ public final class JointTests {
         }
     }
 
+    private static void eachGap() {
+        for (int thickness = 2; thickness <= 20; thickness++) {
+            for (int cut = 10; cut <= 60; cut++) {
+                Tenonyard yard = Yards.roof();
+                yard.joint(0, 1, 'u', thickness, 1);
+                yard.cutAt(0, cut);
+                for (int dried = 10; dried <= 60; dried++) {
+                    yard.dry(0, dried);
+                    int left = 0;
+                    while (1000 * (left + 1) <= thickness * (1000 - 3 * Math.max(0, cut - dried))) {
+                        left++;
+                    }
+                    Check.same("gap of " + thickness + " from " + cut + " to " + dried, yard.gap(0), thickness - left);
+                }
+            }
+        }
+    }
+
     private static void widest() {
         Tenonyard yard = Yards.roof();
         Check.refused("widest of none", Yards.NONE, () -> yard.widest());
@@ -196,5 +215,9 @@ public final class JointTests {
         Check.same("share", yard.rightShare(), 0.5f);
         yard.joint(2, 0, 'u', 2, 1);
         Check.same("share", yard.rightShare(), 2f / 3f);
+        Tenonyard first = Yards.roof();
+        first.joint(0, 1, 'u', 2, 1);
+        first.joint(1, 2, 'u', 20, 1);
+        Check.same("share of the first one", first.rightShare(), 0.5f);
     }
 }

@@ -182,7 +182,8 @@ public final class RaisingTests {
         Check.same("first", yard.raised(0), 1);
         Check.same("second", yard.raised(1), 2);
         Check.same("third", yard.raised(2), 0);
-        Check.same("props", yard.props(2), 0);
+        Check.same("props behind the first", yard.props(0), 0);
+        Check.same("props behind the last", yard.props(2), 0);
         yard.member(1, 2, 12, 0);
         Check.same("a member that always hangs", yard.orders(), 0);
     }
