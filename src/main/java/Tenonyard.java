@@ -827,6 +827,8 @@ public final class Tenonyard {
         /** As many as there are ways to tell each member a stick. */
         private static final int CHOICES = 5 * 5 * 5 * 5 * 5 * 5 * 5 * 5 * 5;
         private static final long NO_WAY = 1L << 62;
+        /** The least whole number whose square is at least 100 * (30 * 30 + 30 * 30). */
+        private static final int LONGEST = 425;
 
         int count;
         boolean isFound;
@@ -859,7 +861,7 @@ public final class Tenonyard {
         int pieceLength(int member, Frame frame, Joinery joinery) {
             int square = 100 * frame.lengthSquare(member);
             int length = 0;
-            while (length * length < square) {
+            while (length < LONGEST && length * length < square) {
                 length++;
             }
             return length + 4 * joinery.joinsGoingIn(member);

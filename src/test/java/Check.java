@@ -37,6 +37,17 @@ final class Check {
         same(what + " throws", got, (Object) due);
     }
 
+    /** The call must throw nothing. */
+    static void taken(String what, Runnable call) {
+        Object got = "nothing";
+        try {
+            call.run();
+        } catch (RuntimeException thrown) {
+            got = thrown.getClass();
+        }
+        same(what + " throws", got, (Object) "nothing");
+    }
+
     /** Ends the program, with exit code 1 if an answer was wrong. */
     static void end(String name) {
         System.out.println(name + ": " + asked + " asked, " + wrong + " wrong");

@@ -407,29 +407,40 @@ final class Model {
         return before;
     }
 
-    private boolean canGoIn(int member, List<Integer> standing) {
-        List<Character> asked = new ArrayList<>();
-        for (Joint joint : joints) {
-            if (joint.member == member && standing.contains(joint.into)) {
-                asked.add(joint.way);
-            } else if (joint.into == member && standing.contains(joint.member)) {
-                asked.add("durlf".charAt("udlrf".indexOf(joint.way)));
-            }
-        }
-        return asked.stream().distinct().count() <= 1;
+    private static boolean has(int set, int member) {
+        return (set >> member & 1) != 0;
     }
 
-    private int needed(List<Integer> standing) {
+    private boolean canGoIn(int member, int standing) {
+        char asked = 0;
+        for (Joint joint : joints) {
+            char way = 0;
+            if (joint.member == member && has(standing, joint.into)) {
+                way = joint.way;
+            } else if (joint.into == member && has(standing, joint.member)) {
+                way = "durlf".charAt("udlrf".indexOf(joint.way));
+            }
+            if (way != 0 && asked != 0 && way != asked) {
+                return false;
+            }
+            asked = way != 0 ? way : asked;
+        }
+        return true;
+    }
+
+    private int needed(int standing) {
         int needed = 0;
-        for (int member : standing) {
+        for (int member = 0; member < members.size(); member++) {
             Member at = members.get(member);
+            if (!has(standing, member) || nodes.get(at.node).kind != '-' || nodes.get(at.other).kind != '-') {
+                continue;
+            }
             int held = 0;
             for (Joint joint : joints) {
                 boolean isOne = joint.member == member || joint.into == member;
-                held += isOne && standing.contains(joint.member) && standing.contains(joint.into) ? 1 : 0;
+                held += isOne && has(standing, joint.member) && has(standing, joint.into) ? 1 : 0;
             }
-            boolean isOnGround = nodes.get(at.node).kind != '-' || nodes.get(at.other).kind != '-';
-            needed += !isOnGround && held < 2 ? 1 : 0;
+            needed += held < 2 ? 1 : 0;
         }
         return needed;
     }
@@ -438,26 +449,24 @@ final class Model {
         if (!isOrderKnown) {
             orderCount = 0;
             firstOrder = null;
-            tryOrders(new ArrayList<>());
+            tryOrders(new int[members.size()], 0, 0);
             isOrderKnown = true;
         }
     }
 
-    private void tryOrders(List<Integer> standing) {
-        if (standing.size() == members.size()) {
+    /** Members are tried from the lowest one on, so the first order that is found is the one that is told. */
+    private void tryOrders(int[] order, int length, int standing) {
+        if (length == members.size()) {
             orderCount++;
             if (firstOrder == null) {
-                firstOrder = standing.stream().mapToInt(member -> member).toArray();
+                firstOrder = order.clone();
             }
             return;
         }
         for (int member = 0; member < members.size(); member++) {
-            if (!standing.contains(member) && canGoIn(member, standing)) {
-                standing.add(member);
-                if (needed(standing) <= limit) {
-                    tryOrders(standing);
-                }
-                standing.remove(standing.size() - 1);
+            if (!has(standing, member) && canGoIn(member, standing) && needed(standing | 1 << member) <= limit) {
+                order[length] = member;
+                tryOrders(order, length + 1, standing | 1 << member);
             }
         }
     }
@@ -475,28 +484,23 @@ final class Model {
     }
 
     boolean canTakeAway() {
-        List<Integer> standing = new ArrayList<>();
-        for (int member = 0; member < members.size(); member++) {
-            standing.add(member);
-        }
-        return canBeEmptied(standing, new java.util.HashSet<>());
+        return canBeEmptied((1 << members.size()) - 1, new boolean[512]);
     }
 
-    private boolean canBeEmptied(List<Integer> standing, java.util.Set<List<Integer>> failed) {
-        if (standing.isEmpty()) {
+    private boolean canBeEmptied(int standing, boolean[] hasFailed) {
+        if (standing == 0) {
             return true;
         }
-        if (needed(standing) > limit || failed.contains(standing)) {
+        if (needed(standing) > limit || hasFailed[standing]) {
             return false;
         }
-        for (int member : standing) {
-            List<Integer> others = new ArrayList<>(standing);
-            others.remove((Integer) member);
-            if (canGoIn(member, others) && canBeEmptied(others, failed)) {
+        for (int member = 0; member < members.size(); member++) {
+            int others = standing & ~(1 << member);
+            if (others != standing && canGoIn(member, others) && canBeEmptied(others, hasFailed)) {
                 return true;
             }
         }
-        failed.add(standing);
+        hasFailed[standing] = true;
         return false;
     }
 
@@ -509,22 +513,17 @@ final class Model {
         raise();
         require(firstOrder != null, new NoSuchElementException());
         index(index, members);
-        List<Integer> standing = new ArrayList<>();
+        int standing = 0;
         for (int place = 0; place <= index; place++) {
-            standing.add(firstOrder[place]);
+            standing |= 1 << firstOrder[place];
         }
         return needed(standing);
     }
 
     int stuck() {
+        int all = (1 << members.size()) - 1;
         for (int member = 0; member < members.size(); member++) {
-            List<Integer> others = new ArrayList<>();
-            for (int other = 0; other < members.size(); other++) {
-                if (other != member) {
-                    others.add(other);
-                }
-            }
-            if (!canGoIn(member, others)) {
+            if (!canGoIn(member, all & ~(1 << member))) {
                 return member;
             }
         }

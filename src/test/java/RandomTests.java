@@ -1,5 +1,3 @@
-import java.lang.reflect.InvocationTargetException;
-import java.lang.reflect.Method;
 import java.util.ArrayList;
 import java.util.Arrays;
 import java.util.List;
@@ -26,7 +24,7 @@ public final class RandomTests {
     private static int sticks;
     private static final int[] STATES = new int[128];
 
-    public static void main(String[] args) throws ReflectiveOperationException {
+    public static void main(String[] args) {
         int runs = args.length > 0 ? Integer.parseInt(args[0]) : 800;
         seed = args.length > 1 ? Long.parseLong(args[1]) : 20261119;
         for (int run = 0; run < runs; run++) {
@@ -38,7 +36,7 @@ public final class RandomTests {
         Check.end("RandomTests");
     }
 
-    private static void oneRun() throws ReflectiveOperationException {
+    private static void oneRun() {
         Tenonyard yard = new Tenonyard();
         Model model = new Model();
         List<String> told = new ArrayList<>();
@@ -62,7 +60,7 @@ public final class RandomTests {
     }
 
     /** Mostly as many members as a frame needs that stands. */
-    private static void makeFrame(Tenonyard yard, Model model, List<String> told) throws ReflectiveOperationException {
+    private static void makeFrame(Tenonyard yard, Model model, List<String> told) {
         int needed = 0;
         String kinds = "-pr-p";
         for (int count = 1 + below(8); count > 0; count--) {
@@ -82,7 +80,7 @@ public final class RandomTests {
     }
 
     private static void call(Tenonyard yard, Model model, String call, List<String> told)
-            throws ReflectiveOperationException {
+            {
         String[] parts = (call + " ").split(" ", -1);
         Object[] arguments = new Object[parts[1].length()];
         for (int index = 0; index < arguments.length; index++) {
@@ -90,8 +88,8 @@ public final class RandomTests {
         }
         String text = parts[0] + Arrays.toString(arguments);
         told.add(text);
-        String got = answer(yard, parts[0], arguments);
-        String due = answer(model, parts[0], arguments);
+        String got = Answers.one(yard, parts[0], arguments);
+        String due = Answers.one(model, parts[0], arguments);
         Check.same(text, (Object) got, (Object) due);
         if (!got.equals(due)) {
             System.out.println(told);
@@ -103,19 +101,6 @@ public final class RandomTests {
             joints += parts[0].equals("joint") ? 1 : 0;
             sticks += parts[0].equals("stick") ? 1 : 0;
         }
-    }
-
-    private static String answer(Object of, String name, Object[] arguments) throws ReflectiveOperationException {
-        for (Method method : of.getClass().getDeclaredMethods()) {
-            if (method.getName().equals(name) && method.getParameterCount() == arguments.length) {
-                try {
-                    return method.invoke(of, arguments).toString();
-                } catch (InvocationTargetException thrown) {
-                    return "throws " + thrown.getCause().getClass().getName();
-                }
-            }
-        }
-        throw new NoSuchMethodException(name);
     }
 
     private static Object argument(char letter) {
