@@ -294,11 +294,7 @@ public final class Tenonyard {
         if (frame.members == 0) {
             throw new ArithmeticException("no members");
         }
-        long sum = 0;
-        for (int member = 0; member < frame.members; member++) {
-            sum += forces.thousandths(member);
-        }
-        return (double) sum / (double) frame.members;
+        return forces.sumOfThousandths(frame.members) / (double) frame.members;
     }
 
     public boolean isSound() {
@@ -644,18 +640,34 @@ public final class Tenonyard {
             return least;
         }
 
-        /** A pull or bearing in thousandths, digit by digit, as a thousand rests can be beyond a long number. */
+        /** A pull or bearing in thousandths, rounded down. */
         long thousandths(int index) {
-            long whole = wholes[index];
+            return 1000 * wholes[index] + restInThousandths(index);
+        }
+
+        /** Digit by digit, as a thousand rests can be beyond a long number. */
+        private long restInThousandths(int index) {
+            long thousandths = 0;
             long rest = rests[index];
-            if (divisor <= 0) {
-                return 0;
-            }
-            for (int digit = 0; digit < 3; digit++) {
-                whole = 10 * whole + 10 * rest / divisor;
+            for (int digit = 0; digit < 3 && divisor > 0; digit++) {
+                thousandths = 10 * thousandths + 10 * rest / divisor;
                 rest = 10 * rest % divisor;
             }
-            return whole;
+            return thousandths;
+        }
+
+        /**
+         * The double nearest to the sum of all pulls in thousandths, as this can be beyond a long number. Its
+         * two parts fit a double exactly, so that it is their one addition alone that rounds.
+         */
+        double sumOfThousandths(int members) {
+            long high = 0;
+            long low = 0;
+            for (int member = 0; member < members; member++) {
+                high += 1000 * (wholes[member] >> 32);
+                low += 1000 * (wholes[member] & Wide.PART) + restInThousandths(member);
+            }
+            return (double) high * (double) (1L << 32) + (double) low;
         }
 
         boolean holdsAt(Frame frame, int x) {
@@ -687,7 +699,7 @@ public final class Tenonyard {
     /** A whole number from 0 to less than 2 to the 256, lowest 32 bits first. */
     private static final class Wide {
         private static final int PARTS = 8;
-        private static final long PART = 0xffffffffL;
+        static final long PART = 0xffffffffL;
 
         private final long[] parts = new long[PARTS];
 

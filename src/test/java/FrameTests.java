@@ -17,7 +17,6 @@ public final class FrameTests {
         smallestDivisor();
         greatDivisor();
         longestMember();
-        greatNumbers();
         Check.end("FrameTests");
     }
 
@@ -365,78 +364,5 @@ public final class FrameTests {
         Check.same("pull", yard.pull(1), 999000);
         Check.same("999 times the root of 1800", yard.force(1), 42383);
         Check.same("force to the right", yard.force(0), -29970);
-    }
-
-    /**
-     * Frames that were sought for great forces: four free nodes and four pinned ones, and the two nodes of
-     * each member, with loads as great as calls allow. On the way numbers go far beyond 64 bits.
-     */
-    private static void greatNumbers() {
-        int[][] places = {
-            {29, 28, 1, 12, 6, 16, 20, 2, 28, 25, 4, 15, 23, 0, 22, 1},
-            {9, 24, 3, 1, 28, 13, 1, 0, 2, 29, 3, 1, 2, 28, 10, 28},
-            {3, 29, 27, 9, 4, 2, 1, 30, 3, 30, 22, 13, 20, 1, 17, 6},
-            {12, 28, 30, 26, 2, 7, 28, 17, 5, 9, 13, 30, 2, 8, 25, 19},
-            {0, 0, 29, 3, 2, 28, 30, 30, 26, 7, 30, 2, 22, 10, 1, 0},
-        };
-        int[][] members = {
-            {0, 5, 0, 2, 1, 7, 1, 3, 2, 6, 2, 7, 3, 0, 3, 4},
-            {0, 2, 0, 6, 1, 7, 1, 0, 2, 3, 2, 5, 3, 4, 3, 6},
-            {0, 7, 0, 6, 1, 2, 1, 7, 2, 0, 2, 4, 3, 5, 3, 1},
-            {0, 7, 0, 3, 1, 2, 1, 4, 2, 5, 2, 0, 3, 6, 3, 4},
-            {0, 5, 0, 3, 1, 0, 1, 7, 2, 4, 2, 5, 3, 2, 3, 6},
-        };
-        int great = 0;
-        for (int frame = 0; frame < places.length; frame++) {
-            for (int loads = 1; loads <= 401; loads += 50) {
-                great += isGreat(places[frame], members[frame], loads) ? 1 : 0;
-            }
-        }
-        Check.yes(great + " times there were great forces", great >= 20);
-    }
-
-    private static boolean isGreat(int[] places, int[] members, int loads) {
-        Tenonyard yard = new Tenonyard();
-        Model model = new Model();
-        for (int node = 0; node < 8; node++) {
-            yard.node(places[2 * node], places[2 * node + 1], node < 4 ? '-' : 'p');
-            model.node(places[2 * node], places[2 * node + 1], node < 4 ? '-' : 'p');
-        }
-        for (int member = 0; member < 8; member++) {
-            yard.member(members[2 * member], members[2 * member + 1], 6, 0);
-            model.member(members[2 * member], members[2 * member + 1], 6, 0);
-        }
-        for (int load = 0; load < loads; load++) {
-            int node = loads % 4;
-            yard.load(node, 999 - load % 7, loads % 3 * 997 - 999 + load % 5);
-            model.load(node, 999 - load % 7, loads % 3 * 997 - 999 + load % 5);
-        }
-        Check.same("state of great numbers", yard.state(), '.');
-        long greatest = 0;
-        for (int member = 0; member < 8; member++) {
-            Check.same("great force " + member, yard.force(member), model.force(member));
-            Check.same("great pull " + member, yard.pull(member), model.pull(member));
-            greatest = Math.max(greatest, Math.abs(yard.force(member)));
-        }
-        for (int node = 0; node < 8; node++) {
-            compareBearings(yard, model, node);
-        }
-        Check.same("weakest of great ones", yard.weakest(), model.weakest());
-        Check.same("sum of great ones", yard.allForce(), model.allForce());
-        Check.yes("great numbers are sound", yard.isSound());
-        return greatest > 1L << 40;
-    }
-
-    /** What is beyond a long number has no answer that is due: the model refuses it. */
-    private static void compareBearings(Tenonyard yard, Model model, int node) {
-        for (boolean isUpward : new boolean[] {false, true}) {
-            long due;
-            try {
-                due = model.bearing(node, isUpward);
-            } catch (ArithmeticException thrown) {
-                continue;
-            }
-            Check.same("great bearing " + node, yard.bearing(node, isUpward), due);
-        }
     }
 }

@@ -195,6 +195,7 @@ final class Model {
         require(state() == '.', new IllegalStateException());
     }
 
+    /** Here and below, what is beyond a long number has no answer that is due: it is an ArithmeticException then. */
     long force(int member) {
         index(member, members);
         standing();
@@ -203,22 +204,22 @@ final class Model {
         return square.sqrt().longValueExact() * over[member].signum();
     }
 
-    private static long thousandths(BigInteger over, BigInteger under) {
-        BigInteger[] parts = over.multiply(BigInteger.valueOf(1000)).divideAndRemainder(under);
-        return parts[0].longValueExact() - (parts[1].signum() < 0 ? 1 : 0);
+    /** A pull or bearing in thousandths, rounded down. */
+    private BigInteger thousandths(int unknown) {
+        BigInteger[] parts = over[unknown].multiply(BigInteger.valueOf(1000)).divideAndRemainder(under[unknown]);
+        return parts[1].signum() < 0 ? parts[0].subtract(BigInteger.ONE) : parts[0];
     }
 
     long pull(int member) {
         index(member, members);
         standing();
-        return thousandths(over[member], under[member]);
+        return thousandths(member).longValueExact();
     }
 
     long bearing(int node, boolean isUpward) {
         index(node, nodes);
         standing();
-        int unknown = 9 + 2 * node + (isUpward ? 1 : 0);
-        return thousandths(over[unknown], under[unknown]);
+        return thousandths(9 + 2 * node + (isUpward ? 1 : 0)).longValueExact();
     }
 
     /** What stands is in balance at each section: what is 0 at each node is 0 for all of them together. */
@@ -534,7 +535,7 @@ final class Model {
         standing();
         long sum = 0;
         for (int member = 0; member < members.size(); member++) {
-            sum += Math.abs(force(member));
+            sum = Math.addExact(sum, Math.abs(force(member)));
         }
         return sum;
     }
@@ -548,14 +549,19 @@ final class Model {
         return right / joints.size();
     }
 
+    /** The sum of all pulls in thousandths, each rounded down. */
+    BigInteger sumOfPulls() {
+        BigInteger sum = BigInteger.ZERO;
+        for (int member = 0; member < members.size(); member++) {
+            sum = sum.add(thousandths(member));
+        }
+        return sum;
+    }
+
     double meanPull() {
         standing();
         require(!members.isEmpty(), new ArithmeticException());
-        long sum = 0;
-        for (int member = 0; member < members.size(); member++) {
-            sum += pull(member);
-        }
-        return (double) sum / (double) members.size();
+        return sumOfPulls().doubleValue() / members.size();
     }
 
     boolean isSound() {
