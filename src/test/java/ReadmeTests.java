@@ -80,7 +80,8 @@ public final class ReadmeTests {
     }
 
     private static String printedBy(String... command) throws IOException, InterruptedException {
-        Process process = new ProcessBuilder(command).directory(PLACE.toFile()).redirectErrorStream(true).start();
+        ProcessBuilder builder = new ProcessBuilder(command).directory(PLACE.toFile());
+        Process process = builder.redirectError(ProcessBuilder.Redirect.INHERIT).start();
         String printed = new String(process.getInputStream().readAllBytes()).trim();
         Check.same(String.join(" ", command) + " printed\n" + printed + "\n and", process.waitFor(), 0);
         return printed;
